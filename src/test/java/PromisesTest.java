@@ -545,6 +545,16 @@ public final class PromisesTest {
                 CHECKS.dueOnly(label, x -> x.atMost(own == 0 ? 1 : 0, own == 1 ? 1 : 0, own == 2 ? 1 : 0, 3),
                         x -> x.depends(0, u), own == u ? 1 : 0);
             }
+            for (int place = 0; place < 5; place++) {
+                int at = place;
+                CHECKS.dueOnly("depends(" + at + ", " + u + ") of five that have one variable each", x -> {
+                    x.atMost(1, 0, 0, 3);
+                    x.atMost(0, 1, 0, 3);
+                    x.atMost(0, 0, 1, 3);
+                    x.atMost(-1, 0, 0, -7);
+                    x.atMost(0, -1, 0, -7);
+                }, x -> x.depends(at, u), at % 3 == u ? 1 : 0);
+            }
             for (int number : new int[] {0, 300, 511}) {
                 CHECKS.dueOnly("depends on " + u + " of triple " + number, onlyTriple(number),
                         x -> x.depends(0, u), 1);
