@@ -8,48 +8,6 @@ public final class PromisesTest {
     private static final Checks.Formula ALWAYS = (p, q, r) -> true;
     private static final Checks.Formula NEVER = (p, q, r) -> false;
 
-    // Five formulas, no two alike and none symmetric in its variables.
-    private static final Checks.Formula[] FIVE = {
-        (p, q, r) -> 2 * p - 3 * q + r <= 4,
-        (p, q, r) -> Math.floorMod(p + 2 * q - r - 1, 3) == 0,
-        (p, q, r) -> p - 2 * q + 3 * r <= 5,
-        (p, q, r) -> Math.floorMod(3 * p - q + 2 * r - 2, 5) == 0,
-        (p, q, r) -> -p + 4 * q - 2 * r <= -1,
-    };
-
-    private static void pushOfFive(PresburgerAuto x, int which) {
-        switch (which) {
-            case 0 -> x.atMost(2, -3, 1, 4);
-            case 1 -> x.congruent(coefficients(1, 2, -1), 3, 1);
-            case 2 -> x.atMost(1, -2, 3, 5);
-            case 3 -> x.congruent(coefficients(3, -1, 2), 5, 2);
-            default -> x.atMost(-1, 4, -2, -1);
-        }
-    }
-
-    private static Checks.Steps push(int many) {
-        return x -> {
-            for (int which = 0; which < many; which++) {
-                pushOfFive(x, which);
-            }
-        };
-    }
-
-    private static Checks.Formula[] first(int many) {
-        return java.util.Arrays.copyOf(FIVE, many);
-    }
-
-    /** The first formulas of FIVE with one more on top. */
-    private static Checks.Formula[] firstAnd(int many, Checks.Formula top) {
-        Checks.Formula[] stack = java.util.Arrays.copyOf(FIVE, many + 1);
-        stack[many] = top;
-        return stack;
-    }
-
-    private static int coefficients(int a, int b, int c) {
-        return 81 * (a + 4) + 9 * (b + 4) + (c + 4);
-    }
-
     /** The formula asked of the triple in which variable v has another value. */
     private static boolean with(Checks.Formula f, int[] triple, int v, int value) {
         int[] changed = triple.clone();
@@ -94,18 +52,36 @@ public final class PromisesTest {
         CHECKS.dueOnly("new: count(0)", NOTHING, x -> x.count(0), -1);
         CHECKS.dueOnly("new: drop()", NOTHING, x -> x.drop(), -1);
         PresburgerAuto used = new PresburgerAuto();
-        push(5).on(used);
+        Five.push(5).on(used);
         PresburgerAuto other = new PresburgerAuto();
         CHECKS.due("depth() of a second object", other.depth(), 0);
         other.atMost(0, 0, 0, -1);
-        CHECKS.due("count(0) of the first object", used.count(0), Checks.size(FIVE[0]));
+        CHECKS.due("count(0) of the first object", used.count(0), Checks.size(Five.ALL[0]));
+    }
+
+    /** The 512th call is the last of which anything is promised. */
+    private static void theLastCall() {
+        for (int many = 0; many <= 5; many++) {
+            int depth = many;
+            Checks.Steps used = x -> {
+                Five.push(depth).on(x);
+                for (int call = depth + 1; call < 512; call++) {
+                    x.atMost(9, 9, 9, 999);
+                }
+            };
+            CHECKS.dueOnly("depth() as the 512th call on " + depth, used, x -> x.depth(), depth);
+            CHECKS.dueOnly("atMost as the 512th call on " + depth, used, x -> x.atMost(1, 1, 1, 1),
+                    depth < 5 ? depth + 1 : -3);
+            CHECKS.dueOnly("count as the 512th call on " + depth, used, x -> x.count(depth - 1),
+                    depth > 0 ? Checks.size(Five.ALL[depth - 1]) : -1);
+        }
     }
 
     private static void promise2Depth() {
         for (int many = 0; many <= 5; many++) {
-            CHECKS.dueAnswer("depth() of " + many, push(many), x -> x.depth(), many, first(many));
+            CHECKS.dueAnswer("depth() of " + many, Five.push(many), x -> x.depth(), many, Five.first(many));
         }
-        CHECKS.dueOnly("depth() after a refused call", push(5), x -> {
+        CHECKS.dueOnly("depth() after a refused call", Five.push(5), x -> {
             x.atMost(1, 1, 1, 1);
             return x.depth();
         }, 5);
@@ -125,11 +101,24 @@ public final class PromisesTest {
             atMostHolds(4, -4, 3, k);
             atMostHolds(0, 0, 0, k);
         }
+        atMostAtTheOutermostSums();
         for (int many = 0; many < 5; many++) {
-            CHECKS.dueAnswer("atMost on " + many, push(many), x -> x.atMost(1, -2, 3, 5),
-                    many + 1, firstAnd(many, FIVE[2]));
+            CHECKS.dueAnswer("atMost on " + many, Five.push(many), x -> x.atMost(1, -2, 3, 5),
+                    many + 1, Five.firstAnd(many, Five.ALL[2]));
         }
         atMostRefuses();
+    }
+
+    /** The sums go from -84 to 84: just at and beside these bounds one triple makes the difference. */
+    private static void atMostAtTheOutermostSums() {
+        int[][] due = {{-85, 0}, {-84, 1}, {83, 511}, {84, 512}};
+        for (int[] row : due) {
+            int k = row[0];
+            int sign = k < 0 ? -4 : 4;
+            atMostHolds(sign, sign, sign, k);
+            CHECKS.dueOnly("count of the greatest sums up to " + k, x -> x.atMost(sign, sign, sign, k),
+                    x -> x.count(0), row[1]);
+        }
     }
 
     private static void atMostHolds(int a, int b, int c, int k) {
@@ -142,18 +131,18 @@ public final class PromisesTest {
         for (int bad : new int[] {-5, 5, LEAST, GREATEST}) {
             for (int many : new int[] {0, 2, 5}) {
                 String label = "atMost with coefficient " + bad + " on " + many;
-                CHECKS.dueAnswer(label, push(many), x -> x.atMost(bad, 0, 0, 0), -1, first(many));
-                CHECKS.dueAnswer(label, push(many), x -> x.atMost(0, bad, 0, 0), -1, first(many));
-                CHECKS.dueAnswer(label, push(many), x -> x.atMost(0, 0, bad, 101), -1, first(many));
+                CHECKS.dueAnswer(label, Five.push(many), x -> x.atMost(bad, 0, 0, 0), -1, Five.first(many));
+                CHECKS.dueAnswer(label, Five.push(many), x -> x.atMost(0, bad, 0, 0), -1, Five.first(many));
+                CHECKS.dueAnswer(label, Five.push(many), x -> x.atMost(0, 0, bad, 101), -1, Five.first(many));
             }
         }
         for (int bad : new int[] {-101, 101, LEAST, GREATEST}) {
             for (int many : new int[] {0, 2, 5}) {
-                CHECKS.dueAnswer("atMost with k " + bad + " on " + many, push(many),
-                        x -> x.atMost(4, -4, 4, bad), -2, first(many));
+                CHECKS.dueAnswer("atMost with k " + bad + " on " + many, Five.push(many),
+                        x -> x.atMost(4, -4, 4, bad), -2, Five.first(many));
             }
         }
-        CHECKS.dueAnswer("atMost on 5", push(5), x -> x.atMost(0, 0, 0, 0), -3, FIVE);
+        CHECKS.dueAnswer("atMost on 5", Five.push(5), x -> x.atMost(0, 0, 0, 0), -3, Five.ALL);
     }
 
     private static void promise4Congruent() {
@@ -165,8 +154,9 @@ public final class PromisesTest {
             }
         }
         for (int many = 0; many < 5; many++) {
-            CHECKS.dueAnswer("congruent on " + many, push(many),
-                    x -> x.congruent(coefficients(1, 2, -1), 3, 1), many + 1, firstAnd(many, FIVE[1]));
+            CHECKS.dueAnswer("congruent on " + many, Five.push(many),
+                    x -> x.congruent(Five.coefficients(1, 2, -1), 3, 1),
+                    many + 1, Five.firstAnd(many, Five.ALL[1]));
         }
         congruentRefuses();
     }
@@ -183,37 +173,37 @@ public final class PromisesTest {
     private static void congruentRefuses() {
         for (int many : new int[] {0, 2, 5}) {
             for (int bad : new int[] {-1, 729, LEAST, GREATEST}) {
-                CHECKS.dueAnswer("congruent(" + bad + ", 2, 0) on " + many, push(many),
-                        x -> x.congruent(bad, 2, 0), -1, first(many));
-                CHECKS.dueAnswer("congruent(" + bad + ", 0, -1) on " + many, push(many),
-                        x -> x.congruent(bad, 0, -1), -1, first(many));
+                CHECKS.dueAnswer("congruent(" + bad + ", 2, 0) on " + many, Five.push(many),
+                        x -> x.congruent(bad, 2, 0), -1, Five.first(many));
+                CHECKS.dueAnswer("congruent(" + bad + ", 0, -1) on " + many, Five.push(many),
+                        x -> x.congruent(bad, 0, -1), -1, Five.first(many));
             }
             for (int bad : new int[] {0, 1, 8, -2, LEAST, GREATEST}) {
-                CHECKS.dueAnswer("congruent(364, " + bad + ", 0) on " + many, push(many),
-                        x -> x.congruent(364, bad, 0), -2, first(many));
-                CHECKS.dueAnswer("congruent(364, " + bad + ", -1) on " + many, push(many),
-                        x -> x.congruent(364, bad, -1), -2, first(many));
+                CHECKS.dueAnswer("congruent(364, " + bad + ", 0) on " + many, Five.push(many),
+                        x -> x.congruent(364, bad, 0), -2, Five.first(many));
+                CHECKS.dueAnswer("congruent(364, " + bad + ", -1) on " + many, Five.push(many),
+                        x -> x.congruent(364, bad, -1), -2, Five.first(many));
             }
             for (int modulus = 2; modulus <= 7; modulus++) {
                 int m = modulus;
                 for (int bad : new int[] {-1, m, LEAST, GREATEST}) {
-                    CHECKS.dueAnswer("congruent(364, " + m + ", " + bad + ") on " + many, push(many),
-                            x -> x.congruent(364, m, bad), -3, first(many));
+                    CHECKS.dueAnswer("congruent(364, " + m + ", " + bad + ") on " + many, Five.push(many),
+                            x -> x.congruent(364, m, bad), -3, Five.first(many));
                 }
             }
         }
-        CHECKS.dueAnswer("congruent on 5", push(5), x -> x.congruent(364, 2, 1), -4, FIVE);
+        CHECKS.dueAnswer("congruent on 5", Five.push(5), x -> x.congruent(364, 2, 1), -4, Five.ALL);
     }
 
     private static void promise5Connect() {
         for (int many = 1; many <= 5; many++) {
-            Checks.Formula top = FIVE[many - 1];
-            CHECKS.dueAnswer("connect(NOT) on " + many, push(many), x -> x.connect(PresburgerAuto.NOT),
-                    many, firstAnd(many - 1, (p, q, r) -> !top.of(p, q, r)));
+            Checks.Formula top = Five.ALL[many - 1];
+            CHECKS.dueAnswer("connect(NOT) on " + many, Five.push(many), x -> x.connect(PresburgerAuto.NOT),
+                    many, Five.firstAnd(many - 1, (p, q, r) -> !top.of(p, q, r)));
         }
         for (int many = 2; many <= 5; many++) {
-            Checks.Formula a = FIVE[many - 2];
-            Checks.Formula b = FIVE[many - 1];
+            Checks.Formula a = Five.ALL[many - 2];
+            Checks.Formula b = Five.ALL[many - 1];
             connectJoins(many, PresburgerAuto.AND, (p, q, r) -> a.of(p, q, r) && b.of(p, q, r));
             connectJoins(many, PresburgerAuto.OR, (p, q, r) -> a.of(p, q, r) || b.of(p, q, r));
             connectJoins(many, PresburgerAuto.XOR, (p, q, r) -> a.of(p, q, r) ^ b.of(p, q, r));
@@ -221,30 +211,30 @@ public final class PromisesTest {
         }
         for (int bad : new int[] {-1, 5, LEAST, GREATEST}) {
             for (int many = 0; many <= 5; many++) {
-                CHECKS.dueAnswer("connect(" + bad + ") on " + many, push(many),
-                        x -> x.connect(bad), -1, first(many));
+                CHECKS.dueAnswer("connect(" + bad + ") on " + many, Five.push(many),
+                        x -> x.connect(bad), -1, Five.first(many));
             }
         }
         CHECKS.dueAnswer("connect(NOT) on 0", NOTHING, x -> x.connect(PresburgerAuto.NOT), -2);
         for (int kind = PresburgerAuto.AND; kind <= PresburgerAuto.IMPLIES; kind++) {
             int k = kind;
             CHECKS.dueAnswer("connect(" + k + ") on 0", NOTHING, x -> x.connect(k), -2);
-            CHECKS.dueAnswer("connect(" + k + ") on 1", push(1), x -> x.connect(k), -2, first(1));
+            CHECKS.dueAnswer("connect(" + k + ") on 1", Five.push(1), x -> x.connect(k), -2, Five.first(1));
         }
     }
 
     private static void connectJoins(int many, int kind, Checks.Formula joined) {
-        CHECKS.dueAnswer("connect(" + kind + ") on " + many, push(many), x -> x.connect(kind),
-                many - 1, firstAnd(many - 2, joined));
+        CHECKS.dueAnswer("connect(" + kind + ") on " + many, Five.push(many), x -> x.connect(kind),
+                many - 1, Five.firstAnd(many - 2, joined));
     }
 
     private static void promise6Exists() {
         for (int v = 0; v <= 2; v++) {
             int u = v;
             for (int many = 1; many <= 5; many++) {
-                Checks.Formula want = some(FIVE[many - 1], u);
-                CHECKS.dueAnswer("exists(" + u + ") on " + many, push(many), x -> x.exists(u),
-                        Checks.size(want), firstAnd(many - 1, want));
+                Checks.Formula want = some(Five.ALL[many - 1], u);
+                CHECKS.dueAnswer("exists(" + u + ") on " + many, Five.push(many), x -> x.exists(u),
+                        Checks.size(want), Five.firstAnd(many - 1, want));
             }
             for (int number : new int[] {0, 7, 56, 448, 511, 290}) {
                 CHECKS.dueAnswer("exists(" + u + ") of triple " + number, onlyTriple(number),
@@ -252,11 +242,13 @@ public final class PromisesTest {
             }
             CHECKS.dueAnswer("exists(" + u + ") of none", x -> x.atMost(0, 0, 0, -1),
                     x -> x.exists(u), 0, NEVER);
+            CHECKS.dueAnswer("exists(" + u + ") of all", x -> x.atMost(0, 0, 0, 0),
+                    x -> x.exists(u), 512, ALWAYS);
             CHECKS.dueAnswer("exists(" + u + ") on 0", NOTHING, x -> x.exists(u), -2);
         }
         for (int bad : new int[] {-1, 3, LEAST, GREATEST}) {
             CHECKS.dueAnswer("exists(" + bad + ") on 0", NOTHING, x -> x.exists(bad), -1);
-            CHECKS.dueAnswer("exists(" + bad + ") on 5", push(5), x -> x.exists(bad), -1, FIVE);
+            CHECKS.dueAnswer("exists(" + bad + ") on 5", Five.push(5), x -> x.exists(bad), -1, Five.ALL);
         }
     }
 
@@ -264,9 +256,9 @@ public final class PromisesTest {
         for (int v = 0; v <= 2; v++) {
             int u = v;
             for (int many = 1; many <= 5; many++) {
-                Checks.Formula want = every(FIVE[many - 1], u);
-                CHECKS.dueAnswer("forall(" + u + ") on " + many, push(many), x -> x.forall(u),
-                        Checks.size(want), firstAnd(many - 1, want));
+                Checks.Formula want = every(Five.ALL[many - 1], u);
+                CHECKS.dueAnswer("forall(" + u + ") on " + many, Five.push(many), x -> x.forall(u),
+                        Checks.size(want), Five.firstAnd(many - 1, want));
             }
             for (int number : new int[] {0, 7, 56, 448, 511, 290}) {
                 Checks.Formula rest = (p, q, r) -> !isTriple(number).of(p, q, r);
@@ -277,11 +269,13 @@ public final class PromisesTest {
             }
             CHECKS.dueAnswer("forall(" + u + ") of all", x -> x.atMost(0, 0, 0, 0),
                     x -> x.forall(u), 512, ALWAYS);
+            CHECKS.dueAnswer("forall(" + u + ") of none", x -> x.atMost(0, 0, 0, -1),
+                    x -> x.forall(u), 0, NEVER);
             CHECKS.dueAnswer("forall(" + u + ") on 0", NOTHING, x -> x.forall(u), -2);
         }
         for (int bad : new int[] {-1, 3, LEAST, GREATEST}) {
             CHECKS.dueAnswer("forall(" + bad + ") on 0", NOTHING, x -> x.forall(bad), -1);
-            CHECKS.dueAnswer("forall(" + bad + ") on 5", push(5), x -> x.forall(bad), -1, FIVE);
+            CHECKS.dueAnswer("forall(" + bad + ") on 5", Five.push(5), x -> x.forall(bad), -1, Five.ALL);
         }
     }
 
@@ -313,8 +307,8 @@ public final class PromisesTest {
                 int t = v;
                 String label = "exchange(" + s + ", " + t + ")";
                 for (int many = 1; many <= 5; many++) {
-                    CHECKS.dueAnswer(label + " on " + many, push(many), x -> x.exchange(s, t), 0,
-                            firstAnd(many - 1, exchanged(FIVE[many - 1], s, t)));
+                    CHECKS.dueAnswer(label + " on " + many, Five.push(many), x -> x.exchange(s, t), 0,
+                            Five.firstAnd(many - 1, exchanged(Five.ALL[many - 1], s, t)));
                 }
                 CHECKS.dueAnswer(label + " on 0", NOTHING, x -> x.exchange(s, t), -2);
             }
@@ -322,9 +316,9 @@ public final class PromisesTest {
         for (int bad : new int[] {-1, 3, LEAST, GREATEST}) {
             for (int many : new int[] {0, 5}) {
                 String label = "exchange with " + bad + " on " + many;
-                CHECKS.dueAnswer(label, push(many), x -> x.exchange(bad, 1), -1, first(many));
-                CHECKS.dueAnswer(label, push(many), x -> x.exchange(1, bad), -1, first(many));
-                CHECKS.dueAnswer(label, push(many), x -> x.exchange(bad, bad), -1, first(many));
+                CHECKS.dueAnswer(label, Five.push(many), x -> x.exchange(bad, 1), -1, Five.first(many));
+                CHECKS.dueAnswer(label, Five.push(many), x -> x.exchange(1, bad), -1, Five.first(many));
+                CHECKS.dueAnswer(label, Five.push(many), x -> x.exchange(bad, bad), -1, Five.first(many));
             }
         }
     }
@@ -333,14 +327,14 @@ public final class PromisesTest {
         for (int v = 0; v <= 2; v++) {
             int u = v;
             for (int many = 1; many <= 5; many++) {
-                CHECKS.dueAnswer("mirror(" + u + ") on " + many, push(many), x -> x.mirror(u), 0,
-                        firstAnd(many - 1, mirrored(FIVE[many - 1], u)));
+                CHECKS.dueAnswer("mirror(" + u + ") on " + many, Five.push(many), x -> x.mirror(u), 0,
+                        Five.firstAnd(many - 1, mirrored(Five.ALL[many - 1], u)));
             }
             CHECKS.dueAnswer("mirror(" + u + ") on 0", NOTHING, x -> x.mirror(u), -2);
         }
         for (int bad : new int[] {-1, 3, LEAST, GREATEST}) {
             CHECKS.dueAnswer("mirror(" + bad + ") on 0", NOTHING, x -> x.mirror(bad), -1);
-            CHECKS.dueAnswer("mirror(" + bad + ") on 5", push(5), x -> x.mirror(bad), -1, FIVE);
+            CHECKS.dueAnswer("mirror(" + bad + ") on 5", Five.push(5), x -> x.mirror(bad), -1, Five.ALL);
         }
     }
 
@@ -348,48 +342,60 @@ public final class PromisesTest {
         for (int many = 1; many < 5; many++) {
             for (int place = 0; place < many; place++) {
                 int from = place;
-                CHECKS.dueAnswer("copy(" + from + ") on " + many, push(many), x -> x.copy(from),
-                        many + 1, firstAnd(many, FIVE[from]));
-                CHECKS.dueAnswer("a changed copy(" + from + ") on " + many, push(many), x -> {
+                CHECKS.dueAnswer("copy(" + from + ") on " + many, Five.push(many), x -> x.copy(from),
+                        many + 1, Five.firstAnd(many, Five.ALL[from]));
+                CHECKS.dueAnswer("a changed copy(" + from + ") on " + many, Five.push(many), x -> {
                     x.copy(from);
                     return x.mirror(0);
-                }, 0, firstAnd(many, mirrored(FIVE[from], 0)));
+                }, 0, Five.firstAnd(many, mirrored(Five.ALL[from], 0)));
             }
         }
         for (int many = 0; many <= 5; many++) {
             for (int bad : new int[] {-1, many, 5, LEAST, GREATEST}) {
-                CHECKS.dueAnswer("copy(" + bad + ") on " + many, push(many), x -> x.copy(bad),
-                        -1, first(many));
+                CHECKS.dueAnswer("copy(" + bad + ") on " + many, Five.push(many), x -> x.copy(bad),
+                        -1, Five.first(many));
             }
         }
         for (int place = 0; place < 5; place++) {
             int from = place;
-            CHECKS.dueAnswer("copy(" + from + ") on 5", push(5), x -> x.copy(from), -2, FIVE);
+            CHECKS.dueAnswer("copy(" + from + ") on 5", Five.push(5), x -> x.copy(from), -2, Five.ALL);
         }
     }
 
     private static void promise11Drop() {
         for (int many = 1; many <= 5; many++) {
-            CHECKS.dueAnswer("drop() on " + many, push(many), x -> x.drop(), many - 1, first(many - 1));
-            CHECKS.dueAnswer("another formula after drop() on " + many, push(many), x -> {
+            CHECKS.dueAnswer("drop() on " + many, Five.push(many), x -> x.drop(),
+                    many - 1, Five.first(many - 1));
+            CHECKS.dueAnswer("another formula after drop() on " + many, Five.push(many), x -> {
                 x.drop();
                 return x.atMost(0, 0, 0, -1);
-            }, many, firstAnd(many - 1, NEVER));
+            }, many, Five.firstAnd(many - 1, NEVER));
         }
         CHECKS.dueAnswer("drop() on 0", NOTHING, x -> x.drop(), -1);
+        Checks.Steps emptied = x -> {
+            Five.push(5).on(x);
+            for (int many = 5; many > 0; many--) {
+                x.drop();
+            }
+        };
+        CHECKS.dueAnswer("drop() on a stack that became empty", emptied, x -> x.drop(), -1);
+        CHECKS.dueAnswer("a formula after a refused drop()", emptied, x -> {
+            x.drop();
+            return x.atMost(0, 0, 0, 0);
+        }, 1, ALWAYS);
     }
 
     private static void promise12Holds() {
         for (int place = 0; place < 5; place++) {
             for (int number : new int[] {0, 1, 7, 8, 63, 64, 200, 510, 511}) {
                 int at = place;
-                CHECKS.dueAnswer("holds(" + at + ", " + number + ")", push(5), x -> x.holds(at, number),
-                        Checks.at(FIVE[at], number) ? 1 : 0, FIVE);
+                CHECKS.dueAnswer("holds(" + at + ", " + number + ")", Five.push(5), x -> x.holds(at, number),
+                        Checks.at(Five.ALL[at], number) ? 1 : 0, Five.ALL);
             }
             for (int bad : new int[] {-1, 512, LEAST, GREATEST}) {
                 int at = place;
-                CHECKS.dueAnswer("holds(" + at + ", " + bad + ")", push(5), x -> x.holds(at, bad),
-                        -2, FIVE);
+                CHECKS.dueAnswer("holds(" + at + ", " + bad + ")", Five.push(5), x -> x.holds(at, bad),
+                        -2, Five.ALL);
             }
         }
         for (int number : new int[] {0, 511, -1, 512}) {
@@ -406,11 +412,11 @@ public final class PromisesTest {
     private static void dueBadPlace(String label, PlaceCall call) {
         for (int many = 0; many <= 5; many++) {
             for (int bad : new int[] {-1, many, 5, LEAST, GREATEST}) {
-                CHECKS.dueAnswer(label + " for " + bad + " on " + many, push(many),
-                        x -> call.on(x, bad), -1, first(many));
+                CHECKS.dueAnswer(label + " for " + bad + " on " + many, Five.push(many),
+                        x -> call.on(x, bad), -1, Five.first(many));
             }
         }
-        CHECKS.dueOnly(label + " for a place that was dropped", push(3), x -> {
+        CHECKS.dueOnly(label + " for a place that was dropped", Five.push(3), x -> {
             x.drop();
             return call.on(x, 2);
         }, -1);
@@ -419,7 +425,8 @@ public final class PromisesTest {
     private static void promise13Count() {
         for (int place = 0; place < 5; place++) {
             int at = place;
-            CHECKS.dueAnswer("count(" + at + ")", push(5), x -> x.count(at), Checks.size(FIVE[at]), FIVE);
+            CHECKS.dueAnswer("count(" + at + ")", Five.push(5), x -> x.count(at),
+                    Checks.size(Five.ALL[at]), Five.ALL);
         }
         CHECKS.dueAnswer("count of all", x -> x.atMost(0, 0, 0, 0), x -> x.count(0), 512, ALWAYS);
         CHECKS.dueAnswer("count of none", x -> x.atMost(0, 0, 0, -1), x -> x.count(0), 0, NEVER);
@@ -434,12 +441,12 @@ public final class PromisesTest {
             int at = place;
             for (int after = -3; after <= 515; after++) {
                 int from = after;
-                CHECKS.dueOnly("next(" + at + ", " + from + ")", push(5), x -> x.next(at, from),
-                        leastAbove(FIVE[at], from));
+                CHECKS.dueOnly("next(" + at + ", " + from + ")", Five.push(5), x -> x.next(at, from),
+                        leastAbove(Five.ALL[at], from));
             }
             for (int far : new int[] {LEAST, -512, -1, 511, 512, GREATEST - 1, GREATEST}) {
-                CHECKS.dueAnswer("next(" + at + ", " + far + ")", push(5), x -> x.next(at, far),
-                        leastAbove(FIVE[at], far), FIVE);
+                CHECKS.dueAnswer("next(" + at + ", " + far + ")", Five.push(5), x -> x.next(at, far),
+                        leastAbove(Five.ALL[at], far), Five.ALL);
             }
         }
         for (int number : new int[] {0, 300, 511}) {
@@ -468,12 +475,12 @@ public final class PromisesTest {
             for (int j = 0; j < 5; j++) {
                 int s = i;
                 int t = j;
-                CHECKS.dueAnswer("same(" + s + ", " + t + ")", push(5), x -> x.same(s, t),
-                        s == t ? 1 : 0, FIVE);
+                CHECKS.dueAnswer("same(" + s + ", " + t + ")", Five.push(5), x -> x.same(s, t),
+                        s == t ? 1 : 0, Five.ALL);
             }
         }
         CHECKS.dueOnly("same of a formula and its copy", x -> {
-            push(2).on(x);
+            Five.push(2).on(x);
             x.copy(0);
         }, x -> x.same(0, 2), 1);
         for (int number : new int[] {0, 255, 511}) {
@@ -503,8 +510,8 @@ public final class PromisesTest {
             for (int j = 0; j < 5; j++) {
                 int s = i;
                 int t = j;
-                CHECKS.dueAnswer("implied(" + s + ", " + t + ")", push(5), x -> x.implied(s, t),
-                        s == t ? 1 : 0, FIVE);
+                CHECKS.dueAnswer("implied(" + s + ", " + t + ")", Five.push(5), x -> x.implied(s, t),
+                        s == t ? 1 : 0, Five.ALL);
             }
         }
         Checks.Steps nested = x -> {
@@ -537,7 +544,8 @@ public final class PromisesTest {
             int u = v;
             for (int place = 0; place < 5; place++) {
                 int at = place;
-                CHECKS.dueAnswer("depends(" + at + ", " + u + ")", push(5), x -> x.depends(at, u), 1, FIVE);
+                CHECKS.dueAnswer("depends(" + at + ", " + u + ")", Five.push(5), x -> x.depends(at, u),
+                        1, Five.ALL);
             }
             for (int w = 0; w <= 2; w++) {
                 int own = w;
@@ -568,7 +576,7 @@ public final class PromisesTest {
             dueBadPlace("depends(place, " + u + ")", (x, place) -> x.depends(place, u));
         }
         for (int bad : new int[] {-1, 3, LEAST, GREATEST}) {
-            CHECKS.dueAnswer("depends(4, " + bad + ")", push(5), x -> x.depends(4, bad), -2, FIVE);
+            CHECKS.dueAnswer("depends(4, " + bad + ")", Five.push(5), x -> x.depends(4, bad), -2, Five.ALL);
             dueBadPlace("depends(place, " + bad + ")", (x, place) -> x.depends(place, bad));
         }
     }
@@ -578,8 +586,8 @@ public final class PromisesTest {
             int u = v;
             for (int place = 0; place < 5; place++) {
                 int at = place;
-                CHECKS.dueAnswer("values(" + at + ", " + u + ")", push(5), x -> x.values(at, u),
-                        valuesOf(FIVE[at], u), FIVE);
+                CHECKS.dueAnswer("values(" + at + ", " + u + ")", Five.push(5), x -> x.values(at, u),
+                        valuesOf(Five.ALL[at], u), Five.ALL);
             }
             for (int bound = -1; bound <= 8; bound++) {
                 int k = bound;
@@ -597,8 +605,46 @@ public final class PromisesTest {
             dueBadPlace("values(place, " + u + ")", (x, place) -> x.values(place, u));
         }
         for (int bad : new int[] {-1, 3, LEAST, GREATEST}) {
-            CHECKS.dueAnswer("values(4, " + bad + ")", push(5), x -> x.values(4, bad), -2, FIVE);
+            CHECKS.dueAnswer("values(4, " + bad + ")", Five.push(5), x -> x.values(4, bad), -2, Five.ALL);
             dueBadPlace("values(place, " + bad + ")", (x, place) -> x.values(place, bad));
+        }
+    }
+
+    /** Empty and full formulas by turns: an answer with a part of a neighbour in it shows at once. */
+    private static void emptyAndFullByTurns() {
+        for (int parity = 0; parity <= 1; parity++) {
+            int fullAt = parity;
+            Checks.Steps byTurns = x -> {
+                for (int place = 0; place < 5; place++) {
+                    x.atMost(0, 0, 0, place % 2 == fullAt ? 0 : -1);
+                }
+            };
+            for (int place = 0; place < 5; place++) {
+                dueEmptyOrFull(byTurns, place, place % 2 == fullAt);
+                for (int other = 0; other < 5; other++) {
+                    int i = place;
+                    int j = other;
+                    String pair = "(" + i + ", " + j + ") of empty and full by turns";
+                    CHECKS.dueOnly("same" + pair, byTurns, x -> x.same(i, j), (i - j) % 2 == 0 ? 1 : 0);
+                    CHECKS.dueOnly("implied" + pair, byTurns, x -> x.implied(i, j),
+                            i % 2 != fullAt || j % 2 == fullAt ? 1 : 0);
+                }
+            }
+        }
+    }
+
+    private static void dueEmptyOrFull(Checks.Steps steps, int at, boolean full) {
+        String label = (full ? "full" : "empty") + " at place " + at + ": ";
+        CHECKS.dueOnly(label + "holds of 0", steps, x -> x.holds(at, 0), full ? 1 : 0);
+        CHECKS.dueOnly(label + "holds of 511", steps, x -> x.holds(at, 511), full ? 1 : 0);
+        CHECKS.dueOnly(label + "count", steps, x -> x.count(at), full ? 512 : 0);
+        CHECKS.dueOnly(label + "next after -1", steps, x -> x.next(at, -1), full ? 0 : -2);
+        CHECKS.dueOnly(label + "next after 510", steps, x -> x.next(at, 510), full ? 511 : -2);
+        CHECKS.dueOnly(label + "next after 511", steps, x -> x.next(at, 511), -2);
+        for (int v = 0; v <= 2; v++) {
+            int u = v;
+            CHECKS.dueOnly(label + "depends on " + u, steps, x -> x.depends(at, u), 0);
+            CHECKS.dueOnly(label + "values of " + u, steps, x -> x.values(at, u), full ? 8 : 0);
         }
     }
 
@@ -614,6 +660,7 @@ public final class PromisesTest {
 
     public static void main(String[] args) {
         promise1ANewObject();
+        theLastCall();
         promise2Depth();
         promise3AtMost();
         promise4Congruent();
@@ -631,6 +678,7 @@ public final class PromisesTest {
         promise16Implied();
         promise17Depends();
         promise18Values();
+        emptyAndFullByTurns();
         CHECKS.end();
     }
 }
