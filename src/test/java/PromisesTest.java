@@ -88,18 +88,14 @@ public final class PromisesTest {
     }
 
     private static void promise3AtMost() {
-        int[] bounds = {-100, -84, -29, -1, 0, 1, 7, 84, 100};
         for (int a = -4; a <= 4; a++) {
             for (int b = -4; b <= 4; b++) {
                 for (int c = -4; c <= 4; c++) {
-                    atMostHolds(a, b, c, bounds[(a * 81 + b * 9 + c + 364) % bounds.length]);
-                    atMostHolds(a, b, c, a - 2 * b + c);
+                    for (int k = -100; k <= 100; k++) {
+                        atMostHolds(a, b, c, k);
+                    }
                 }
             }
-        }
-        for (int k : bounds) {
-            atMostHolds(4, -4, 3, k);
-            atMostHolds(0, 0, 0, k);
         }
         atMostAtTheOutermostSums();
         for (int many = 0; many < 5; many++) {
@@ -115,7 +111,6 @@ public final class PromisesTest {
         for (int[] row : due) {
             int k = row[0];
             int sign = k < 0 ? -4 : 4;
-            atMostHolds(sign, sign, sign, k);
             CHECKS.dueOnly("count of the greatest sums up to " + k, x -> x.atMost(sign, sign, sign, k),
                     x -> x.count(0), row[1]);
         }
